@@ -243,12 +243,11 @@ public final class OlapCubes {
         return measure >= -GREATEST_MEASURE && measure <= GREATEST_MEASURE;
     }
 
+    // Only for callers that have seen that there is room.
     private void append(int place, int measure) {
-        if (size < MOST_FACTS) {
-            places[size] = place;
-            measures[size] = measure;
-            size++;
-        }
+        places[size] = place;
+        measures[size] = measure;
+        size++;
     }
 
     private int total(int view, int cell) {

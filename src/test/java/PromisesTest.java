@@ -320,6 +320,8 @@ public final class PromisesTest {
         for (int bad : new int[] {-1, 192, MIN, MAX}) {
             due("least(47, " + bad + ")", x.least(47, bad), 10000);
         }
+        x.measure(0, -1000);
+        due("least(47, 0), the first fact's", x.least(47, 0), -1000);
     }
 
     private static void most() {
@@ -357,6 +359,11 @@ public final class PromisesTest {
         }
         x.put(3, 0);
         due("next(0, -1), a later fact in a lesser cell", x.next(0, -1), 3);
+        OlapCubes y = new OlapCubes();
+        y.put(0, 0);
+        due("next(0, -1), one fact", y.next(0, -1), 0);
+        y.put(1, 0);
+        due("next(0, -1), a later fact in a greater cell", y.next(0, -1), 0);
     }
 
     private static void best() {
@@ -381,6 +388,13 @@ public final class PromisesTest {
         y.put(8, -1000);
         due("best(0), all below 0", y.best(0), 8);
         due("best(1)", y.best(1), 8);
+        OlapCubes z = new OlapCubes();
+        z.put(0, 5);
+        due("best(0), one fact", z.best(0), 0);
+        z.put(1, 5);
+        due("best(0), two alike, the least put in first", z.best(0), 0);
+        z.measure(1, 4);
+        due("best(0), a lesser sum put in last", z.best(0), 0);
     }
 
     private static void having() {
